@@ -6,7 +6,7 @@ import java.util.Map;
 import java.util.Set;
 import java.util.TreeSet;
 
-/** The public face: exactly the constants, the constructor and the methods of the document, and no other open member. */
+/** The public face: the constants, the constructor and the methods of the document, and no other open member. */
 public final class FaceTest {
     private static final Map<String, Integer> CONSTANTS = Map.of(
         "BAD", -1, "FULL", -2, "IDLE", 0, "RUNNING", 1, "HALTED", 2, "TRAPPED", 3);

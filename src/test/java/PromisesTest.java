@@ -1,82 +1,14 @@
 /** One method for each promise of the document: ordinary inputs, the edges it names, and wrong inputs. */
-public final class PromisesTest {
-    private static final int SET = 0;
-    private static final int ADD = 1;
-    private static final int MUL = 2;
-    private static final int DIV = 3;
-    private static final int LOAD = 4;
-    private static final int STORE = 5;
-    private static final int ZERO = 6;
-    private static final int JUMP = 7;
-    private static final int HALT = 8;
-    private static final int MIN = Integer.MIN_VALUE;
-    private static final int MAX = Integer.MAX_VALUE;
-    /** Ways to guess: never, always, and some in between. */
-    private static final int[] GUESSES = {0, -1, 1, 2, 0x5555, 0xAAAA, 0xFFFF0000, MIN, MAX};
-
-    private static int wrong = 0;
-
-    private static void due(String what, long got, long want) {
-        if (got != want) {
-            wrong++;
-            System.out.println(what + ": answered " + got + ", due is " + want);
-        }
-    }
-
-    private static void due(String what, boolean got, boolean want) {
-        due(what, got ? 1 : 0, want ? 1 : 0);
-    }
-
-    private static int regs(int a, int b, int c) {
-        return a + 4 * b + 16 * c;
-    }
-
-    private static void dueRun(String what, ReorderCore x, int status, int position, int finished) {
-        due(what + ": status", x.status(), status);
-        due(what + ": position", x.position(), position);
-        due(what + ": finished", x.finished(), finished);
-    }
-
-    private static void dueRegisters(String what, ReorderCore x, int... want) {
-        for (int i = 0; i < want.length; i++) {
-            due(what + ": register " + i, x.register(i), want[i]);
-        }
-    }
-
-    private static void dueCells(String what, ReorderCore x, int... want) {
-        for (int i = 0; i < want.length; i++) {
-            due(what + ": cell " + i, x.memory(i), want[i]);
-        }
-    }
-
-    private static void setRegisters(ReorderCore x, int... values) {
-        for (int i = 0; i < values.length; i++) {
-            due("set register " + i, x.set(i, values[i]), true);
-        }
-    }
-
-    /** One instruction on the given registers, finished or trapped; then the object is handed back for a look. */
-    private static ReorderCore one(int op, int regs, int n, int... registers) {
-        ReorderCore x = new ReorderCore();
-        setRegisters(x, registers);
-        for (int i = 0; i < 8; i++) {
-            x.set(8 + i, 100 + i);
-        }
-        x.emit(op, regs, n);
-        x.start(0);
-        due("op " + op + ": ended", x.finish(1) == 1 || x.status() == ReorderCore.TRAPPED, true);
-        return x;
-    }
-
+public final class PromisesTest extends TestBase {
     private static void promise1NewObject() {
         ReorderCore x = new ReorderCore();
         due("new: length", x.length(), 0);
-        dueRun("new", x, ReorderCore.IDLE, 0, 0);
+        dueRun("new", x, IDLE, 0, 0);
         dueRegisters("new", x, 0, 0, 0, 0);
         dueCells("new", x, 0, 0, 0, 0, 0, 0, 0, 0);
         due("new: digest", x.digest(), 0);
         due("new: finish", x.finish(5), 0);
-        dueRun("new, after finish", x, ReorderCore.IDLE, 0, 0);
+        dueRun("new, after finish", x, IDLE, 0, 0);
         ReorderCore other = new ReorderCore();
         x.set(0, 7);
         x.set(8, 7);
@@ -90,13 +22,13 @@ public final class PromisesTest {
         ReorderCore x = new ReorderCore();
         int[][] bad = {{-1, 0}, {9, 0}, {MIN, 0}, {MAX, 0}, {0, -1}, {0, 64}, {8, MIN}, {8, MAX}, {-1, 64}};
         for (int[] pair : bad) {
-            due("bad emit " + pair[0] + " " + pair[1], x.emit(pair[0], pair[1], 0), ReorderCore.BAD);
+            due("bad emit " + pair[0] + " " + pair[1], x.emit(pair[0], pair[1], 0), BAD);
             due("bad emit appends nothing", x.length(), 0);
         }
         for (int i = 0; i < 16; i++) {
             due("emit " + i, x.emit(i % 9, i % 2 == 0 ? 63 : 0, i % 2 == 0 ? MIN : MAX), i);
         }
-        due("emit when full", x.emit(SET, 0, 0), ReorderCore.FULL);
+        due("emit when full", x.emit(SET, 0, 0), FULL);
         due("length when full", x.length(), 16);
         x.clear();
         due("emit after clear", x.emit(SET, 0, 0), 0);
@@ -108,7 +40,7 @@ public final class PromisesTest {
         dueCells("STORE looks at a, b", one(STORE, regs(1, 2, 3), 9, -1, -5, 3, -1), 100, 101, 102, -5);
         due("ZERO looks at a", one(ZERO, regs(2, 1, 1), 9, 1, 1, 0, 1).position(), 9);
         due("JUMP looks at n", one(JUMP, 63, 9, -1, -1, -1, -1).position(), 9);
-        due("HALT looks at nothing", one(HALT, 63, 9, -1, -1, -1, -1).status(), ReorderCore.HALTED);
+        due("HALT looks at nothing", one(HALT, 63, 9, -1, -1, -1, -1).status(), HALTED);
         dueRegisters("ADD ignores n", one(ADD, regs(0, 1, 2), 77, 1, 2, 3, 4), 5, 2, 3, 4);
     }
 
@@ -119,18 +51,18 @@ public final class PromisesTest {
         x.start(0);
         due("one finished", x.finish(1), 1);
         due("emit in a run", x.emit(HALT, 0, 0), 2);
-        dueRun("emit ends a run", x, ReorderCore.IDLE, 0, 0);
+        dueRun("emit ends a run", x, IDLE, 0, 0);
         due("no run to go on", x.finish(9), 0);
         dueRegisters("what was finished stays, no more", x, 5, 0, 0, 0);
         x.start(0);
         due("all three", x.finish(9), 3);
         x.emit(HALT, 0, 0);
-        dueRun("emit after HALTED", x, ReorderCore.IDLE, 0, 0);
+        dueRun("emit after HALTED", x, IDLE, 0, 0);
         x.clear();
         x.start(0);
         x.finish(1);
         x.emit(HALT, 0, 0);
-        dueRun("emit after TRAPPED", x, ReorderCore.IDLE, 0, 0);
+        dueRun("emit after TRAPPED", x, IDLE, 0, 0);
     }
 
     private static void promise3Clear() {
@@ -143,7 +75,7 @@ public final class PromisesTest {
         x.finish(5);
         x.clear();
         due("clear: length", x.length(), 0);
-        dueRun("clear", x, ReorderCore.IDLE, 0, 0);
+        dueRun("clear", x, IDLE, 0, 0);
         dueRegisters("clear keeps registers", x, 8, 2, 3, 4);
         due("clear keeps cells", x.memory(7), 9);
         due("clear: no run", x.finish(1), 0);
@@ -151,7 +83,7 @@ public final class PromisesTest {
         x.emit(SET, 2, 70);
         x.start(0);
         due("only the new program", x.finish(9), 1);
-        dueRun("new program", x, ReorderCore.TRAPPED, 1, 1);
+        dueRun("new program", x, TRAPPED, 1, 1);
         dueRegisters("new program", x, 1, 2, 70, 4);
     }
 
@@ -191,34 +123,34 @@ public final class PromisesTest {
         dueRegisters("set while RUNNING", x, 10, 11, 12, 13);
         due("set while RUNNING: cell", x.memory(0), 18);
         x.finish(2);
-        due("TRAPPED", x.status(), ReorderCore.TRAPPED);
+        due("TRAPPED", x.status(), TRAPPED);
         due("set while TRAPPED", x.set(0, MIN), true);
         due("set while TRAPPED", x.register(0), MIN);
-        dueRun("set leaves the run", x, ReorderCore.TRAPPED, 1, 1);
+        dueRun("set leaves the run", x, TRAPPED, 1, 1);
         x.emit(HALT, 0, 0);
         x.start(0);
         x.finish(2);
         due("set while HALTED", x.set(15, MAX), true);
         due("set while HALTED", x.memory(7), MAX);
-        dueRun("set leaves the run", x, ReorderCore.HALTED, 1, 2);
+        dueRun("set leaves the run", x, HALTED, 1, 2);
     }
 
     private static void promise6Start() {
         ReorderCore x = new ReorderCore();
         x.start(0);
-        dueRun("empty program", x, ReorderCore.RUNNING, 0, 0);
+        dueRun("empty program", x, RUNNING, 0, 0);
         due("empty program", x.finish(1), 0);
-        dueRun("empty program", x, ReorderCore.TRAPPED, 0, 0);
+        dueRun("empty program", x, TRAPPED, 0, 0);
         x.emit(SET, 0, 1);
         x.emit(ADD, regs(1, 1, 0), 0);
         x.emit(JUMP, 0, 1);
         x.start(0);
         due("first run", x.finish(6), 6);
         x.start(0);
-        dueRun("started anew", x, ReorderCore.RUNNING, 0, 0);
+        dueRun("started anew", x, RUNNING, 0, 0);
         dueRegisters("registers as they were", x, 1, 3, 0, 0);
         due("second run", x.finish(4), 4);
-        dueRun("second run", x, ReorderCore.RUNNING, 2, 4);
+        dueRun("second run", x, RUNNING, 2, 4);
         dueRegisters("goes on from the registers", x, 1, 5, 0, 0);
     }
 
@@ -242,12 +174,12 @@ public final class PromisesTest {
                 String what = "guesses " + guesses + ", value " + value;
                 if (value == 0) {
                     due(what, x.finish(200), 6);
-                    dueRun(what, x, ReorderCore.TRAPPED, 9, 6);
+                    dueRun(what, x, TRAPPED, 9, 6);
                     dueRegisters(what, x, 0, -1, 7, 60);
                     dueCells(what, x, 0, 0, 0, 0, 0, 0, 0, 3);
                 } else {
                     due(what, x.finish(200), 6);
-                    dueRun(what, x, ReorderCore.HALTED, 5, 6);
+                    dueRun(what, x, HALTED, 5, 6);
                     dueRegisters(what, x, 9 * value, -1, 50, 3);
                     dueCells(what, x, 0, 0, 0, 7, 0, 0, 0, 0);
                 }
@@ -264,30 +196,30 @@ public final class PromisesTest {
         for (int[] pair : asked) {
             due("finish " + pair[0], x.finish(pair[0]), pair[1]);
             sum += pair[1];
-            dueRun("finish " + pair[0], x, ReorderCore.RUNNING, 0, sum);
+            dueRun("finish " + pair[0], x, RUNNING, 0, sum);
         }
         x.clear();
         x.start(0);
         due("finish(0) before a trap", x.finish(0), 0);
         due("finish(-3) before a trap", x.finish(-3), 0);
-        dueRun("nothing changed", x, ReorderCore.RUNNING, 0, 0);
+        dueRun("nothing changed", x, RUNNING, 0, 0);
         x.emit(SET, 0, 4);
         x.emit(DIV, regs(1, 0, 2), 0);
         x.start(0);
         due("one before the trap", x.finish(1), 1);
-        dueRun("still RUNNING", x, ReorderCore.RUNNING, 1, 1);
+        dueRun("still RUNNING", x, RUNNING, 1, 1);
         due("nothing asked", x.finish(0), 0);
-        dueRun("still RUNNING", x, ReorderCore.RUNNING, 1, 1);
+        dueRun("still RUNNING", x, RUNNING, 1, 1);
         due("the trap", x.finish(1), 0);
-        dueRun("TRAPPED", x, ReorderCore.TRAPPED, 1, 1);
+        dueRun("TRAPPED", x, TRAPPED, 1, 1);
         due("after the trap", x.finish(1), 0);
         x.emit(HALT, 0, 0);
         x.set(2, 2);
         x.start(0);
         due("up to the HALT", x.finish(2), 2);
-        dueRun("before the HALT", x, ReorderCore.RUNNING, 2, 2);
+        dueRun("before the HALT", x, RUNNING, 2, 2);
         due("the HALT", x.finish(5), 1);
-        dueRun("HALTED", x, ReorderCore.HALTED, 2, 3);
+        dueRun("HALTED", x, HALTED, 2, 3);
         due("after the HALT", x.finish(5), 0);
     }
 
@@ -313,7 +245,7 @@ public final class PromisesTest {
         for (int[] t : trapping) {
             ReorderCore x = one(t[0], t[1], 0, 9, t[2], t[3], 0);
             String what = "op " + t[0] + " on " + t[2];
-            dueRun(what, x, ReorderCore.TRAPPED, 0, 0);
+            dueRun(what, x, TRAPPED, 0, 0);
             dueRegisters(what, x, 9, t[2], t[3], 0);
             dueCells(what, x, 100, 101, 102, 103, 104, 105, 106, 107);
         }
@@ -346,29 +278,29 @@ public final class PromisesTest {
                 due("memory order: cell 5 after " + i, x.memory(5), cell5[i]);
             }
             dueRegisters("memory order", x, 15, 1, 5, 1);
-            due("memory order: status", x.status(), ReorderCore.HALTED);
+            due("memory order: status", x.status(), HALTED);
         }
     }
 
     private static void promise8Status() {
         ReorderCore x = new ReorderCore();
-        due("IDLE", x.status(), ReorderCore.IDLE);
+        due("IDLE", x.status(), IDLE);
         x.emit(JUMP, 0, 1);
-        due("IDLE", x.status(), ReorderCore.IDLE);
+        due("IDLE", x.status(), IDLE);
         x.start(0);
-        due("RUNNING", x.status(), ReorderCore.RUNNING);
+        due("RUNNING", x.status(), RUNNING);
         x.finish(1);
-        due("RUNNING past the end", x.status(), ReorderCore.RUNNING);
+        due("RUNNING past the end", x.status(), RUNNING);
         x.finish(1);
-        due("TRAPPED", x.status(), ReorderCore.TRAPPED);
+        due("TRAPPED", x.status(), TRAPPED);
         x.emit(HALT, 0, 0);
         x.start(0);
         x.finish(2);
-        due("HALTED", x.status(), ReorderCore.HALTED);
+        due("HALTED", x.status(), HALTED);
         x.start(0);
-        due("RUNNING again", x.status(), ReorderCore.RUNNING);
+        due("RUNNING again", x.status(), RUNNING);
         x.clear();
-        due("IDLE again", x.status(), ReorderCore.IDLE);
+        due("IDLE again", x.status(), IDLE);
     }
 
     private static void promise9Position() {
@@ -380,9 +312,9 @@ public final class PromisesTest {
                     x.emit(op, 0, target);
                     x.start(guesses);
                     due("to " + target, x.finish(1), 1);
-                    dueRun("to " + target, x, ReorderCore.RUNNING, target, 1);
+                    dueRun("to " + target, x, RUNNING, target, 1);
                     due("to " + target, x.finish(1), 0);
-                    dueRun("to " + target, x, ReorderCore.TRAPPED, target, 1);
+                    dueRun("to " + target, x, TRAPPED, target, 1);
                     x.clear();
                     due("position when IDLE", x.position(), 0);
                 }
@@ -397,12 +329,12 @@ public final class PromisesTest {
             due("position", x.position(), i);
             x.finish(1);
         }
-        dueRun("past the last", x, ReorderCore.RUNNING, 16, 16);
+        dueRun("past the last", x, RUNNING, 16, 16);
         x.finish(1);
-        dueRun("past the last", x, ReorderCore.TRAPPED, 16, 16);
+        dueRun("past the last", x, TRAPPED, 16, 16);
         x.start(0);
         x.finish(3);
-        due("FULL leaves the position", x.emit(SET, 0, 0), ReorderCore.FULL);
+        due("FULL leaves the position", x.emit(SET, 0, 0), FULL);
         due("position", x.position(), 3);
     }
 
@@ -420,7 +352,7 @@ public final class PromisesTest {
             due("finished", x.finished(), i);
         }
         x.finish(1);
-        dueRun("a HALT counts", x, ReorderCore.HALTED, 4, 4);
+        dueRun("a HALT counts", x, HALTED, 4, 4);
         x.start(2);
         due("finished since the start", x.finished(), 0);
         x.finish(2);
@@ -453,7 +385,8 @@ public final class PromisesTest {
             x.emit(MUL, regs(3, 3, 0), 0);
             x.emit(ADD, regs(0, 3, 3), 0);
             x.start(guesses);
-            int[][] after = {{20, 5, 2, 0}, {20, 3, 2, 0}, {20, 3, 2, 23}, {1, 3, 2, 23}, {1, 3, 2, 23}, {46, 3, 2, 23}};
+            int[][] after = {{20, 5, 2, 0}, {20, 3, 2, 0}, {20, 3, 2, 23}, {1, 3, 2, 23}, {1, 3, 2, 23},
+                {46, 3, 2, 23}};
             for (int[] want : after) {
                 x.finish(1);
                 dueRegisters("after " + x.finished(), x, want);
@@ -515,15 +448,15 @@ public final class PromisesTest {
         x.set(1, 1);
         x.start(0);
         x.finish(5);
-        int[][] refused = {{9, 0, ReorderCore.BAD}, {-1, 0, ReorderCore.BAD}, {0, 64, ReorderCore.BAD},
-            {0, -1, ReorderCore.BAD}, {0, 0, ReorderCore.FULL}, {8, 63, ReorderCore.FULL}};
+        int[][] refused = {{9, 0, BAD}, {-1, 0, BAD}, {0, 64, BAD},
+            {0, -1, BAD}, {0, 0, FULL}, {8, 63, FULL}};
         for (int[] r : refused) {
             due("refused emit " + r[0] + " " + r[1], x.emit(r[0], r[1], 9), r[2]);
             due("length", x.length(), 16);
-            dueRun("refused emit", x, ReorderCore.RUNNING, 5, 5);
+            dueRun("refused emit", x, RUNNING, 5, 5);
         }
         due("the run goes on", x.finish(12), 12);
-        dueRun("the run goes on", x, ReorderCore.RUNNING, 1, 17);
+        dueRun("the run goes on", x, RUNNING, 1, 17);
         dueRegisters("the run goes on", x, 16, 1, 0, 0);
         int[] numbers = {-1, 0, 3, 4, 7, 8, 15, 16, MIN, MAX};
         for (int i : numbers) {
@@ -535,8 +468,8 @@ public final class PromisesTest {
         x.emit(HALT, 0, 0);
         x.start(0);
         x.finish(1);
-        due("BAD after HALTED", x.emit(9, 0, 0), ReorderCore.BAD);
-        dueRun("BAD after HALTED", x, ReorderCore.HALTED, 0, 1);
+        due("BAD after HALTED", x.emit(9, 0, 0), BAD);
+        dueRun("BAD after HALTED", x, HALTED, 0, 1);
     }
 
     public static void main(String[] args) {
@@ -561,9 +494,6 @@ public final class PromisesTest {
         promise12Memory();
         promise13Digest();
         promise14OrderAndLimits();
-        System.out.println(wrong == 0 ? "all answers are as due" : wrong + " answers are not as due");
-        if (wrong != 0) {
-            System.exit(1);
-        }
+        end();
     }
 }
