@@ -329,6 +329,7 @@ public final class ProgramSentencesTest extends TestBase {
         String before = seen(idle);
         due("IDLE", idle.emit(SET, 0, 9), FULL);
         due("IDLE", seen(idle), before);
+        dueFullProgramUntouched("IDLE", idle);
         ReorderCore running = full();
         running.start(0);
         running.finish(14);
@@ -337,7 +338,8 @@ public final class ProgramSentencesTest extends TestBase {
         due("RUNNING", seen(running), before);
         due("the run goes on", running.finish(3), 3);
         dueRun("the run goes on", running, RUNNING, 1, 17);
-        dueRegisters("the run goes on, and no instruction was changed", running, 16, 1, 0, 0);
+        dueRegisters("the run goes on", running, 16, 1, 0, 0);
+        dueFullProgramUntouched("RUNNING", running);
         for (int op : new int[] {HALT, DIV}) {
             ReorderCore ended = new ReorderCore();
             emitTimes(ended, 16, op, 0, 0);
@@ -348,6 +350,14 @@ public final class ProgramSentencesTest extends TestBase {
             due("ended by op " + op, seen(ended), before);
             due("ended by op " + op, ended.status(), op == HALT ? HALTED : TRAPPED);
         }
+    }
+
+    private static void dueFullProgramUntouched(String what, ReorderCore x) {
+        int before = x.register(0);
+        x.start(0);
+        due(what + ": the old program", x.finish(32), 32);
+        dueRun(what + ": the old program", x, RUNNING, 0, 32);
+        dueRegisters(what + ": the old program", x, before + 30, 1, 0, 0);
     }
 
     /** The next one to finish may have been looked at before the refused call: it must still be the old one. */

@@ -74,29 +74,46 @@ public final class RunSentencesTest extends TestBase {
         dueRun("cleared", x, RUNNING, 0, 0);
     }
 
-    /** A ZERO alone at position p, each way, under each single bit of the guesses and its opposite. */
+    /** A ZERO at position p, each way, under each single bit of the guesses and its opposite. */
     private static void guessBitOfEachPosition() {
         for (int p = 0; p < 16; p++) {
             for (int bit = 0; bit < 32; bit++) {
-                for (int value = 0; value <= 1; value++) {
-                    dueGuessUnseen(p, 1 << bit, value);
-                    dueGuessUnseen(p, ~(1 << bit), value);
-                }
+                dueGuessUnseen(p, 1 << bit);
+                dueGuessUnseen(p, ~(1 << bit));
             }
         }
     }
 
-    private static void dueGuessUnseen(int p, int guesses, int value) {
+    /** The ZERO stands behind a MUL that keeps it waiting, so that the guess is followed for a while. */
+    private static ReorderCore guessing(int p, int guesses, int value) {
         ReorderCore x = new ReorderCore();
-        setRegisters(x, value, 7, 0, 0);
-        emitTimes(x, p, ADD, regs(2, 2, 1), 0);
+        setRegisters(x, value, 1, 0, 0);
+        emitTimes(x, p - 1, ADD, regs(2, 2, 1), 0);
+        if (p > 0) {
+            x.emit(MUL, regs(0, 0, 1), 0);
+        }
         x.emit(ZERO, 0, 0);
         emitTimes(x, 15 - p, ADD, regs(3, 3, 1), 0);
         x.start(guesses);
-        String what = "ZERO at " + p + " on " + value + ", guesses " + guesses;
-        due(what, x.finish(p + 1), p + 1);
-        dueRun(what, x, RUNNING, value == 0 ? 0 : p + 1, p + 1);
-        dueRegisters(what, x, value, 7, 7 * p, 0);
+        return x;
+    }
+
+    private static void dueGuessUnseen(int p, int guesses) {
+        int adds = p > 0 ? p - 1 : 0;
+        String what = "ZERO at " + p + ", guesses " + guesses;
+        ReorderCore taken = guessing(p, guesses, 0);
+        for (int round = 1; round <= 2; round++) {
+            due(what + ", taken", taken.finish(p + 1), p + 1);
+            dueRun(what + ", taken", taken, RUNNING, 0, round * (p + 1));
+            dueRegisters(what + ", taken", taken, 0, 1, round * adds, 0);
+        }
+        ReorderCore passed = guessing(p, guesses, 1);
+        due(what + ", passed", passed.finish(p + 1), p + 1);
+        dueRun(what + ", passed", passed, RUNNING, p + 1, p + 1);
+        dueRegisters(what + ", passed", passed, 1, 1, adds, 0);
+        due(what + ", to the end", passed.finish(200), 15 - p);
+        dueRun(what + ", to the end", passed, TRAPPED, 16, 16);
+        dueRegisters(what + ", to the end", passed, 1, 1, adds, 15 - p);
     }
 
     private static ReorderCore twisted(int guesses) {

@@ -327,33 +327,61 @@ public final class TermsSentencesTest extends TestBase {
         }
     }
 
-    /** Slow instructions before quick ones: after each single finish only what is due by then may be seen. */
+    private static ReorderCore slowBeforeQuick(int guesses) {
+        ReorderCore x = new ReorderCore();
+        setRegisters(x, 600, 3, 2, 7);
+        x.emit(DIV, regs(0, 0, 1), 0);
+        x.emit(STORE, regs(1, 2, 0), 0);
+        x.emit(LOAD, regs(3, 2, 0), 0);
+        x.emit(SET, regs(1, 0, 0), 5);
+        x.emit(STORE, regs(1, 3, 0), 0);
+        x.emit(DIV, regs(0, 0, 3), 0);
+        x.emit(STORE, regs(0, 2, 0), 0);
+        x.emit(LOAD, regs(2, 2, 0), 0);
+        x.emit(SET, regs(3, 0, 0), 0);
+        x.emit(ZERO, regs(3, 0, 0), 11);
+        x.emit(SET, regs(0, 0, 0), -1);
+        x.emit(HALT, 0, 0);
+        x.start(guesses);
+        return x;
+    }
+
+    /** The position after each instruction of slowBeforeQuick. */
+    private static final int[] SLOW_POSITIONS = {1, 2, 3, 4, 5, 6, 7, 8, 9, 11, 11};
+    /** The registers and cells 2 and 3 after each. */
+    private static final int[][] SLOW_HELD = {{200, 3, 2, 7, 0, 0}, {200, 3, 2, 7, 3, 0}, {200, 3, 2, 3, 3, 0},
+        {200, 5, 2, 3, 3, 0}, {200, 5, 2, 3, 3, 5}, {66, 5, 2, 3, 3, 5}, {66, 5, 2, 3, 66, 5}, {66, 5, 66, 3, 66, 5},
+        {66, 5, 66, 0, 66, 5}, {66, 5, 66, 0, 66, 5}, {66, 5, 66, 0, 66, 5}};
+
     private static void finishedInOrder() {
         for (int guesses : GUESSES) {
-            ReorderCore x = new ReorderCore();
-            setRegisters(x, 600, 3, 2, 7);
-            x.emit(DIV, regs(0, 0, 1), 0);
-            x.emit(DIV, regs(0, 0, 2), 0);
-            x.emit(STORE, regs(0, 2, 0), 0);
-            x.emit(SET, regs(1, 0, 0), 5);
-            x.emit(STORE, regs(1, 3, 0), 0);
-            x.emit(LOAD, regs(2, 2, 0), 0);
-            x.emit(SET, regs(3, 0, 0), 0);
-            x.emit(ZERO, regs(3, 0, 0), 9);
-            x.emit(SET, regs(0, 0, 0), -1);
-            x.emit(HALT, 0, 0);
-            int[][] after = {{200, 3, 2, 7, 0, 0, 1}, {100, 3, 2, 7, 0, 0, 2}, {100, 3, 2, 7, 100, 0, 3},
-                {100, 5, 2, 7, 100, 0, 4}, {100, 5, 2, 7, 100, 5, 5}, {100, 5, 100, 7, 100, 5, 6},
-                {100, 5, 100, 0, 100, 5, 7}, {100, 5, 100, 0, 100, 5, 9}, {100, 5, 100, 0, 100, 5, 9}};
-            x.start(guesses);
-            for (int i = 0; i < after.length; i++) {
+            ReorderCore x = slowBeforeQuick(guesses);
+            for (int i = 0; i < SLOW_POSITIONS.length; i++) {
                 String what = "guesses " + guesses + ", after " + (i + 1);
                 due(what, x.finish(1), 1);
-                dueRun(what, x, i == 8 ? HALTED : RUNNING, after[i][6], i + 1);
-                dueRegisters(what, x, after[i][0], after[i][1], after[i][2], after[i][3]);
-                dueCells(what, x, 0, 0, after[i][4], 0, 0, 0, 0, after[i][5]);
+                dueRun(what, x, i == 10 ? HALTED : RUNNING, SLOW_POSITIONS[i], i + 1);
             }
         }
+    }
+
+    /** However many are finished at once, nothing of what comes after them may be seen. */
+    private static void seenIsWhatTheFinishedLeave() {
+        for (int guesses : GUESSES) {
+            for (int count = 1; count <= SLOW_HELD.length; count++) {
+                dueHeld("guesses " + guesses + ", at once " + count, slowBeforeQuick(guesses), count, count);
+            }
+            ReorderCore x = slowBeforeQuick(guesses);
+            for (int count = 1; count <= SLOW_HELD.length; count++) {
+                dueHeld("guesses " + guesses + ", one by one " + count, x, 1, count);
+            }
+        }
+    }
+
+    private static void dueHeld(String what, ReorderCore x, int asked, int count) {
+        int[] want = SLOW_HELD[count - 1];
+        due(what, x.finish(asked), asked);
+        dueRegisters(what, x, want[0], want[1], want[2], want[3]);
+        dueCells(what, x, 0, 0, want[4], want[5], 0, 0, 0, 0);
     }
 
     /** All the ways to trap: DIV by 0, LOAD and STORE at -1, and a JUMP off the program (which is finished itself). */
@@ -426,8 +454,9 @@ public final class TermsSentencesTest extends TestBase {
             TermsSentencesTest::whatWasClearedTraps);
         sentence("A RUN begins at position 0 with all registers and cells as they are.",
             TermsSentencesTest::runBeginsAtZeroWithAllAsItIs);
-        sentence("FINISHED one after the other, in the order of the program; what can be seen is what they leave",
-            TermsSentencesTest::finishedInOrder);
+        sentence("FINISHED one after the other, in the order of the program", TermsSentencesTest::finishedInOrder);
+        sentence("What can be seen at any time is what the finished instructions, carried out one by one, leave.",
+            TermsSentencesTest::seenIsWhatTheFinishedLeave);
         sentence("whatever traps is not finished, and the run is TRAPPED there",
             TermsSentencesTest::trapIsNotFinishedAndEndsThere);
         sentence("A HALT is finished, and the run is HALTED, with its position that of the HALT.",
